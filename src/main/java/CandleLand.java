@@ -797,6 +797,7 @@ public final class CandleLand {
         private final int[] owners = new int[CANDLES];
         private final int[] mine = new int[CELLS];
         private final int[] theirs = new int[CELLS];
+        /** Of one candle, as far as 0, 1, ..: its light in one hour, were it lit. */
         private final int[] byFar = new int[FARTHEST + 1];
         private final int[] gainsA = new int[4];
         private final int[] gainsB = new int[4];
@@ -824,8 +825,17 @@ public final class CandleLand {
         }
 
         void layAll(int hour) {
-            for (int c = 0; c < CELLS; c++) {
-                layCell(c, hour);
+            for (int k = 0; k < land.candles; k++) {
+                layFar(k, hour);
+                for (int c = 0; c < CELLS; c++) {
+                    strong[c * CANDLES + k] = byFar[land.farFrom(k, c)];
+                }
+            }
+        }
+
+        private void layFar(int candle, int hour) {
+            for (int far = 0; far <= FARTHEST; far++) {
+                byFar[far] = ifLit(candle, far, hour);
             }
         }
 
@@ -945,17 +955,18 @@ public final class CandleLand {
             return acres;
         }
 
-        /** The first cell where a candle brings its owner most acres, lit or out as it is. */
+        /** The first cell where a candle brings its owner most acres; one that is out is alike everywhere. */
         int bestPlace(int candle, int hour) {
+            if (land.litAt(candle) == 0) {
+                return 0;
+            }
             int own = candlesOf(land.owner[candle]);
             int rest = land.lit & ~(1 << candle);
             for (int c = 0; c < CELLS; c++) {
                 mine[c] = strongest(c, rest & own);
                 theirs[c] = strongest(c, rest & ~own);
             }
-            for (int far = 0; far <= FARTHEST; far++) {
-                byFar[far] = land.litAt(candle) == 1 ? ifLit(candle, far, hour) : 0;
-            }
+            layFar(candle, hour);
             int best = 0;
             int most = NONE;
             for (int place = 0; place < CELLS; place++) {

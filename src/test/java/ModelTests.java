@@ -699,13 +699,26 @@ public final class ModelTests {
         }
     }
 
+    /** Each run calls some calls often and others seldom, so that runs of the same calls come about, too. */
+    private List<String> favoured() {
+        List<String> calls = new ArrayList<>(List.of(CALLS));
+        for (int i = 0; i < 4; i++) {
+            String often = CALLS[below(CALLS.length)];
+            for (int k = 0; k < 12; k++) {
+                calls.add(often);
+            }
+        }
+        return calls;
+    }
+
     private void run(int number) {
         CandleLand x = new CandleLand();
         Model m = new Model();
         String name = "run " + number;
         int calls = 0;
-        while (calls < 400) {
-            String call = CALLS[below(CALLS.length)];
+        List<String> favoured = favoured();
+        while (calls < 250) {
+            String call = favoured.get(below(favoured.size()));
             if (call.equals("read") && below(3) > 0) {
                 compare(x, m, "clear", new int[0], name);
                 String text = text();
@@ -718,9 +731,9 @@ public final class ModelTests {
                 call = "candle";
             }
             compare(x, m, call, numbers(call, m), name);
+            compare(x, m, "digest", new int[0], name);
             calls++;
         }
-        compare(x, m, "digest", new int[0], name);
         for (int what = 0; what < 3; what++) {
             compare(x, m, "status", new int[] {what}, name);
         }
@@ -728,7 +741,7 @@ public final class ModelTests {
 
     public static void main(String[] args) {
         ModelTests tests = new ModelTests();
-        for (int i = 0; i < 400; i++) {
+        for (int i = 0; i < 600; i++) {
             tests.run(i);
         }
         System.out.println(tests.wrong == 0 ? "all answers are as due" : tests.wrong + " answers are not as due");

@@ -197,13 +197,30 @@ public final class PromiseTests {
             x.move(i % 2, 20 + i);
             due("count(5)", x.count(5), Math.min(8, i + 1));
         }
-        for (int i = 0; i < 8; i++) {
+        for (int i = 10; i > 2; i--) {
             due("undo()", x.undo(), 3);
+            due("where it was", x.of(i % 2, 1), 18 + i);
+            due("where the other is", x.of((i + 1) % 2, 1), 19 + i);
         }
         due("undo() of the ninth", x.undo(), -3);
         due("of(0, 1)", x.of(0, 1), 22);
         due("of(1, 1)", x.of(1, 1), 21);
         refusals(x, 0, 3, 0);
+        undoOfTenLit();
+    }
+
+    private static void undoOfTenLit() {
+        CandleLand x = new CandleLand();
+        x.candle(0, 1, 5, 0, 5);
+        x.candle(0, 2, 5, 0, 5);
+        for (int i = 0; i < 10; i++) {
+            x.light(i % 2, i / 2 % 2);
+        }
+        // lit ahead of the third to the tenth: 0, 1, 3, 2, 0, 1, 3, 2
+        for (int bits : new int[] {2, 3, 1, 0, 2, 3, 1, 0}) {
+            due("undo()", x.undo(), bits);
+        }
+        due("undo() of the ninth", x.undo(), -3);
     }
 
     private static void typeAndClear() {
@@ -275,6 +292,10 @@ public final class PromiseTests {
         told("valley 1;7;", -19);
         told("valley 1; valley 1;", -20);
         told("valley 1;cand", -19);
+        told("valley 1z;", -18);
+        told("valleyz 1;", -10);
+        told("galley 1;", -10);
+        told("valley 1;aut 0;", -19);
         told("valley 1;candle 6 0 1 0 0;", -26);
         told("valley 1;candle 0 64 1 0 0;", -28);
         told("valley 1;candle 0 0 0 0 0;", -30);
@@ -522,6 +543,7 @@ public final class PromiseTests {
         due("nor the rival's", x.put(0, 0), 26);
         due("of(0, 1)", x.of(0, 1), 63);
         due("count(5)", x.count(5), 0);
+        putFar();
         x.light(0, 0);
         due("out: the first", x.put(0, 0), 0);
         due("put(-1, 0)", x.put(-1, 0), -2);
@@ -531,6 +553,24 @@ public final class PromiseTests {
         refusals(x, 5, 0, 0);
     }
 
+    private static void putFar() {
+        CandleLand x = new CandleLand();
+        x.candle(5, 9, 15, 0, 12);
+        due("a star that lights all from its corner", x.put(0, 0), 0);
+        x.candle(0, 0, 1, 1, 12);
+        due("one cell is a hedge wherever it is", x.put(0, 0), 0);
+        x.candle(5, 9, 14, 0, 12);
+        due("from the corner it would lack one", x.put(2, 0), 0);
+        x.light(0, 0);
+        due("all but the hedge, from beside the corner", x.put(2, 0), 1);
+        x.light(1, 0);
+        due("from the corner it lacks the far one", x.put(2, 0), 1);
+        x.valley(0);
+        x.candle(0, 63, 1, 0, 12);
+        x.candle(0, 0, 1, 0, 12);
+        due("its own has the first", x.put(0, 0), 1);
+    }
+
     private static void thief() {
         promise = 22;
         CandleLand x = new CandleLand();
@@ -538,6 +578,8 @@ public final class PromiseTests {
         due("the least of like ways", x.thief(0, 63, 0, 1, 1), 1);
         due("backwards", x.thief(63, 0, 0, 1, 1), 55);
         due("not around the edge", x.thief(7, 8, 0, 1, 0), 8);
+        due("one step", x.thief(8, 0, 0, 1, 0), 1);
+        due("one step", x.thief(8, 0, 0, 1, 1), 0);
         due("where he is", x.thief(9, 9, 0, 1, 0), 0);
         due("where he is", x.thief(9, 9, 0, 1, 1), 9);
         for (int row = 0; row < 7; row++) {
@@ -595,12 +637,23 @@ public final class PromiseTests {
         x.candle(0, 0, 20, 3, 12);
         due("a third takes all", x.spite(0, 1, 0, 5), 5);
         due("count(2)", x.count(2), 11);
+        spiteOfOne();
         int[][] bad = {{0, 0, 0, 0}, {-1, 0, 0, 0}, {4, 0, 0, 0}, {0, -1, 0, 0}, {0, 4, 0, 0}, {0, 1, -1, 0},
             {0, 1, 12, 0}, {0, 1, 0, -1}, {0, 1, 0, 100}};
         for (int[] b : bad) {
             due("spite, bad", x.spite(b[0], b[1], b[2], b[3]), -2);
         }
         refusals(x, 9, 0, 0);
+    }
+
+    private static void spiteOfOne() {
+        CandleLand x = new CandleLand();
+        x.candle(0, 0, 2, 0, 12);
+        x.candle(0, 0, 1, 1, 12);
+        due("b has a cell where a is out", x.spite(0, 1, 0, 0), 10);
+        due("b's light costs a cell", x.spite(0, 1, 0, 10), 2);
+        due("a's light costs three of three, too", x.spite(0, 1, 0, 30), 3);
+        due("a's light costs more than it has", x.spite(0, 1, 0, 40), 1);
     }
 
     private static void readings() {
@@ -642,6 +695,10 @@ public final class PromiseTests {
         x.reading(62, 0, 0);
         due("none", x.burn(0), 0);
         due("none", x.burn(1), -1);
+        x.burnt();
+        x.reading(0, 0, 4);
+        due("5 is not 4", x.burn(0), 0);
+        burnOfOne();
         promise = 28;
         due("none", x.measure(0), -1);
         x.burnt();
@@ -660,6 +717,20 @@ public final class PromiseTests {
         due("measure(12)", x.measure(12), -2);
         due("no candles", new CandleLand().measure(5), 0);
         refusals(x, 4, 0, 0);
+    }
+
+    private static void burnOfOne() {
+        CandleLand x = new CandleLand();
+        x.candle(1, 0, 20, 0, 12);
+        x.candle(0, 63, 20, 0, 12);
+        due("both open: told apart by both lights", x.measure(0), 0);
+        due("the same again", x.measure(0), 0);
+        x.reading(0, 0, 23);
+        due("burn(0)", x.burn(0), 2);
+        due("the first is in all", x.burn(1), 1);
+        due("the second is told where it is stronger: as far as 9", x.measure(0), 23);
+        x.reading(0, 0, 22);
+        due("burn(0)", x.burn(0), 0);
     }
 
     private static void draughtAndPart() {
@@ -750,6 +821,44 @@ public final class PromiseTests {
         due("the fraction stays", x.part(1), 1);
         due("the text stays", x.count(6), 2);
         refusals(x, 4, 1, 0);
+        imagesOfMany();
+    }
+
+    private static void imagesOfMany() {
+        CandleLand x = new CandleLand();
+        x.candle(0, 1, 5, 0, 5);
+        x.candle(0, 2, 5, 1, 5);
+        for (int i = 0; i < 6; i++) {
+            x.want(10 + i);
+            x.reading(20 + i, i, 3 + i);
+        }
+        for (int i = 0; i < 4; i++) {
+            x.move(1, 30 + i);
+            x.light(1, i % 2);
+        }
+        x.image(0);
+        long kept = x.digest();
+        x.valley(0);
+        x.candle(1, 3, 6, 2, 6);
+        for (int i = 0; i < 6; i++) {
+            x.want(40);
+            x.reading(41, 7, 9);
+        }
+        for (int i = 0; i < 8; i++) {
+            x.move(0, 50 + i);
+        }
+        x.image(1);
+        due("from(0)", x.from(0), 1);
+        due("digest()", x.digest(), kept);
+        int[] lit = {1, 1, 3, 3, 1, 1, 3, 3};
+        int[] cells = {33, 32, 32, 31, 31, 30, 30, 2};
+        for (int i = 0; i < 8; i++) {
+            due("undo()", x.undo(), lit[i]);
+            due("of(1, 1)", x.of(1, 1), cells[i]);
+        }
+        due("from(1)", x.from(1), 1);
+        due("undo()", x.undo(), 1);
+        due("of(0, 1)", x.of(0, 1), 56);
     }
 
     private static void statusAndCount() {
