@@ -8,11 +8,6 @@ import java.util.regex.Pattern;
 
 /** Random runs of calls, with a fixed seed, beside a model that reckons each answer the long way. */
 public final class ModelTests {
-    private static final String[] CALLS = {"valley", "fog", "candle", "move", "light", "undo", "type", "clear", "read",
-        "of", "shines", "cell", "acres", "hedges", "dark", "want", "forget", "lighting", "tallow", "put", "thief",
-        "wedding", "spite", "reading", "burnt", "burn", "measure", "draught", "nights", "part", "image", "from",
-        "status", "count", "digest"};
-
     /** The model's candle: kind, cell, height, owner, tallow, lit. */
     private record Candle(int kind, int cell, int height, int owner, int tallow, boolean lit) {
         Candle at(int where) {
@@ -571,47 +566,6 @@ public final class ModelTests {
         }
     }
 
-    private static long answered(CandleLand x, String call, int[] a) {
-        switch (call) {
-            case "valley": return x.valley(a[0]);
-            case "fog": return x.fog(a[0]);
-            case "candle": return x.candle(a[0], a[1], a[2], a[3], a[4]);
-            case "move": return x.move(a[0], a[1]);
-            case "light": return x.light(a[0], a[1]);
-            case "undo": return x.undo();
-            case "type": return x.type(a[0]);
-            case "clear": return x.clear();
-            case "read": return x.read();
-            case "of": return x.of(a[0], a[1]);
-            case "shines": return x.shines(a[0], a[1], a[2]);
-            case "cell": return x.cell(a[0], a[1], a[2]);
-            case "acres": return x.acres(a[0], a[1], a[2]);
-            case "hedges": return x.hedges(a[0], a[1]);
-            case "dark": return x.dark(a[0], a[1], a[2]);
-            case "want": return x.want(a[0]);
-            case "forget": return x.forget();
-            case "lighting": return x.lighting(a[0], a[1]);
-            case "tallow": return x.tallow(a[0], a[1]);
-            case "put": return x.put(a[0], a[1]);
-            case "thief": return x.thief(a[0], a[1], a[2], a[3], a[4]);
-            case "wedding": return x.wedding(a[0], a[1], a[2]);
-            case "spite": return x.spite(a[0], a[1], a[2], a[3]);
-            case "reading": return x.reading(a[0], a[1], a[2]);
-            case "burnt": return x.burnt();
-            case "burn": return x.burn(a[0]);
-            case "measure": return x.measure(a[0]);
-            case "draught": return x.draught(a[0], a[1], a[2], a[3]);
-            case "nights": return x.nights(a[0], a[1], a[2], a[3]);
-            case "part": return x.part(a[0]);
-            case "image": return x.image(a[0]);
-            case "from": return x.from(a[0]);
-            case "status": return x.status(a[0]);
-            case "count": return x.count(a[0]);
-            case "digest": return x.digest();
-            default: throw new IllegalStateException(call);
-        }
-    }
-
     private final Random random = new Random(20261118);
     private int wrong = 0;
 
@@ -693,7 +647,7 @@ public final class ModelTests {
 
     private void compare(CandleLand x, Model m, String call, int[] a, String run) {
         long want = m.call(call, a);
-        long got = answered(x, call, a);
+        long got = Calls.answer(x, call, a);
         if (got != want && wrong++ < 20) {
             System.out.println(run + ": " + call + Arrays.toString(a) + " answered " + got + ", due is " + want);
         }
@@ -701,9 +655,9 @@ public final class ModelTests {
 
     /** Each run calls some calls often and others seldom, so that runs of the same calls come about, too. */
     private List<String> favoured() {
-        List<String> calls = new ArrayList<>(List.of(CALLS));
+        List<String> calls = new ArrayList<>(List.of(Calls.NAMES));
         for (int i = 0; i < 4; i++) {
-            String often = CALLS[below(CALLS.length)];
+            String often = Calls.NAMES[below(Calls.NAMES.length)];
             for (int k = 0; k < 12; k++) {
                 calls.add(often);
             }
@@ -711,28 +665,32 @@ public final class ModelTests {
         return calls;
     }
 
+    private void retype(CandleLand x, Model m, String text, String run) {
+        compare(x, m, "clear", new int[0], run);
+        for (int i = 0; i < text.length(); i++) {
+            compare(x, m, "type", new int[] {text.charAt(i)}, run);
+        }
+    }
+
     private void run(int number) {
         CandleLand x = new CandleLand();
         Model m = new Model();
         String name = "run " + number;
-        int calls = 0;
         List<String> favoured = favoured();
-        while (calls < 250) {
+        // a call, its digest, and the three of STATUS must still go in
+        while (Calls.left(x) >= 5) {
             String call = favoured.get(below(favoured.size()));
             if (call.equals("read") && below(3) > 0) {
-                compare(x, m, "clear", new int[0], name);
                 String text = text();
-                for (int i = 0; i < text.length(); i++) {
-                    compare(x, m, "type", new int[] {text.charAt(i)}, name);
+                if (text.length() + 6 <= Calls.left(x)) {
+                    retype(x, m, text, name);
                 }
-                calls += text.length();
             }
             if (call.equals("valley") && below(4) > 0) {
                 call = "candle";
             }
             compare(x, m, call, numbers(call, m), name);
             compare(x, m, "digest", new int[0], name);
-            calls++;
         }
         for (int what = 0; what < 3; what++) {
             compare(x, m, "status", new int[] {what}, name);
