@@ -20,6 +20,7 @@ public final class AskEdgeTests {
             Check.due(x, -10, "acres", o, 11, -2);
         }
         Check.refused(x, 4, 0, 0);
+        Check.says("ACRES of an OWNER, HEDGES in an HOUR: how many; the i-th CELL.");
         x = with(new int[] {5, 0, 15, 3, 0});
         Check.due(x, 64, "acres", 3, 11, -1);
         for (int c = 0; c < 64; c++) {
@@ -335,6 +336,14 @@ public final class AskEdgeTests {
         Check.due(x, 0, "wedding", 0, 3, 0);
         Check.due(x, 3, "count", 2);
         Check.refused(x, 0, 0, 0);
+        // two cells and the hedge between, then a hedge that a third is in, too
+        x = with(new int[] {0, 0, 2, 1, 12}, new int[] {0, 2, 2, 2, 12}, new int[] {0, 1, 1, 0, 1});
+        Check.due(x, 2, "acres", 1, 0, -1);
+        Check.due(x, 3, "acres", 2, 0, -1);
+        Check.due(x, 0, "wedding", 1, 2, 0);
+        Check.due(x, 0, "wedding", 0, 2, 0);
+        Check.due(x, 1, "wedding", 1, 2, 1);
+        Check.due(x, 1, "wedding", 2, 1, 1);
     }
 
     private static void spite() {
@@ -363,6 +372,21 @@ public final class AskEdgeTests {
         Check.due(x, 2, "count", 2);
         Check.refused(x, 0, 0, 0);
         sevenOfOne();
+        Check.says("each has all CANDLES LIT or all out (others as they are)");
+        x = with(new int[] {0, 0, 1, 0, 12}, new int[] {0, 63, 1, 0, 12}, new int[] {0, 0, 1, 1, 12},
+                new int[] {0, 63, 1, 2, 12});
+        // lit, both of a's are hedged by others; the other's out, one is a's alone
+        Check.due(x, 15, "spite", 0, 3, 0, 0);
+        x.light(3, 0);
+        Check.due(x, 10, "spite", 0, 3, 0, 0);
+        x.light(0, 0);
+        x.light(1, 0);
+        Check.due(x, 10, "spite", 0, 3, 0, 0);
+        x.light(2, 0);
+        Check.due(x, 10, "spite", 0, 3, 0, 9);
+        Check.due(x, 15, "spite", 0, 3, 0, 10);
+        Check.due(x, 10, "spite", 0, 1, 0, 0);
+        Check.due(x, 0, "count", 2);
         Check.says("pairs that rest (bits: 0 both out, 1 a LIT, 2 b LIT, 3 both; neither would get more by doing "
                 + "otherwise)");
         pairs();

@@ -1,4 +1,5 @@
 import java.util.ArrayList;
+import java.util.Arrays;
 import java.util.List;
 
 /** Each number of each call: the last that is as told and the first that is not, on both sides; what is refused. */
@@ -15,7 +16,8 @@ public final class BoundsTests {
         }
     }
 
-    private record Row(String call, int bad, Number... numbers) {
+    /** A call: what its promise says of a refusal, its answer then, and its numbers. */
+    private record Row(String call, String promise, int bad, Number... numbers) {
         int[] ordinary() {
             int[] a = new int[numbers.length];
             for (int i = 0; i < a.length; i++) {
@@ -30,45 +32,52 @@ public final class BoundsTests {
     private static final Number HOUR = new Number("HOURS 0 .. 11", 0, 11, 1);
     private static final Number OWNER = new Number("an OWNER (0 .. 3)", 0, 3, 1);
     private static final Number OTHER = new Number("an OWNER (0 .. 3)", 0, 3, 2);
+    private static final Number LIGHT = new Number("LIGHTING for an HOUR, n (1 .. 20)", 1, 20, 5);
     private static final Number FOG = new Number("FOG (0 .. 9; 0 at first)", 0, 9, 4);
 
     private static final Row[] ROWS = {
-        new Row("valley", -2, FOG),
-        new Row("fog", -2, FOG),
-        new Row("candle", -2, new Number("KINDS, each under the one told", 0, 5, 1), CELL,
+        new Row("valley", "how many CANDLES there were. BAD.", -2, FOG),
+        new Row("fog", "FOG: what it was. BAD.", -2, FOG),
+        new Row("candle", "A CANDLE: its number. BAD;", -2, new Number("KINDS, each under the one told", 0, 5, 1), CELL,
                 new Number("HEIGHT (1 .. 20)", 1, 20, 5), OWNER, new Number("TALLOW (0 .. 12)", 0, 12, 6)),
-        new Row("move", -2, CANDLE, CELL),
-        new Row("light", -2, CANDLE, new Number("A CANDLE is LIT (1), put out (0): 1. BAD;", 0, 1, 0)),
-        new Row("type", -2, new Number("A byte (0 .. 127) comes behind THE TEXT", 0, 127, 32)),
-        new Row("of", -2, CANDLE, new Number("Of a CANDLE: KIND (0), CELL (1), HEIGHT (2), OWNER (3), TALLOW (4), "
-                + "whether LIT (5; 1, 0), for how many HOURS it burns (6). BAD.", 0, 6, 3)),
-        new Row("shines", -2, CANDLE, CELL, HOUR),
-        new Row("cell", -10, CELL, HOUR, new Number("How LIGHT a CELL is (0), whose (1; NONE: nobody's), "
-                + "whether it is a HEDGE (2; 1, 0). BAD: -10.", 0, 2, 1)),
-        new Row("acres", -10, OWNER, HOUR, new Number("ACRES: how many (i = NONE), the i-th CELL. "
-                + "-5: not so many. BAD: -10.", -1, MOST, 0)),
-        new Row("hedges", -10, HOUR, new Number("HEDGES: likewise.", -1, MOST, 0)),
-        new Row("dark", -2, CELL, HOUR, new Number("n (1 .. 20; in HOUR 12 all is dark)", 1, 20, 5)),
-        new Row("want", -2, CELL),
-        new Row("lighting", -2, HOUR, new Number("LIGHTING for an HOUR, n (1 .. 20)", 1, 20, 5)),
-        new Row("tallow", -2, HOUR, new Number("LIGHTING for an HOUR, n (1 .. 20)", 1, 20, 5)),
-        new Row("put", -2, CANDLE, HOUR),
-        new Row("thief", -2, CELL, CELL, HOUR, new Number("n (1 .. 20; both ends, too)", 1, 20, 5),
-                new Number("THIEF: how many steps (0), the first CELL (1). NONE. BAD.", 0, 1, 1)),
-        new Row("wedding", -100, OWNER, OTHER, HOUR),
-        new Row("spite", -2, OWNER, OTHER, HOUR, new Number("p (0 .. 99)", 0, 99, 10)),
-        new Row("reading", -2, CELL, HOUR, new Number("a CELL was LIGHT by v (0 .. 23) in an HOUR", 0, 23, 5)),
-        new Row("burn", -10, new Number("how many sets (0), CANDLES in all of them (1; bits; NONE). BAD: -10.", 0, 1, 1)),
-        new Row("measure", -2, HOUR),
-        new Row("draught", -2, CELL, HOUR, new Number("LIGHT by n (0 .. 23) or more in an HOUR", 0, 23, 5),
+        new Row("move", "A CANDLE is moved: the CELL where it was. BAD.", -2, CANDLE, CELL),
+        new Row("light", "A CANDLE is LIT (1), put out (0): 1. BAD;", -2, CANDLE,
+                new Number("A CANDLE is LIT (1), put out (0)", 0, 1, 0)),
+        new Row("type", "how many it has. BAD;", -2, new Number("A byte (0 .. 127) comes behind THE TEXT", 0, 127, 32)),
+        new Row("of", "for how many HOURS it burns (6). BAD.", -2, CANDLE, new Number("Of a CANDLE: KIND (0), CELL (1), "
+                + "HEIGHT (2), OWNER (3), TALLOW (4), whether LIT (5; 1, 0), for how many HOURS it burns (6).", 0, 6, 3)),
+        new Row("shines", "LIGHT of a CANDLE in a CELL. BAD.", -2, CANDLE, CELL, HOUR),
+        new Row("cell", "whether it is a HEDGE (2; 1, 0). BAD: -10.", -10, CELL, HOUR, new Number("How LIGHT a CELL is (0), "
+                + "whose (1; NONE: nobody's), whether it is a HEDGE (2; 1, 0).", 0, 2, 1)),
+        new Row("acres", "-5: not so many. BAD: -10.", -10, OWNER, HOUR,
+                new Number("ACRES: how many (i = NONE), the i-th CELL. -5: not so many.", -1, MOST, 0)),
+        new Row("hedges", "HEDGES: likewise.", -10, HOUR, new Number("HEDGES: likewise.", -1, MOST, 0)),
+        new Row("dark", "DARK. BAD.", -2, CELL, HOUR, new Number("n (1 .. 20; in HOUR 12 all is dark)", 1, 20, 5)),
+        new Row("want", "A WANTED CELL: how many there are. BAD;", -2, CELL),
+        new Row("lighting", "LIGHTING, as bits. NONE. BAD.", -2, HOUR, LIGHT),
+        new Row("tallow", "TALLOW LEAST. NONE. BAD.", -2, HOUR, LIGHT),
+        new Row("put", "PUT. BAD.", -2, CANDLE, HOUR),
+        new Row("thief", "the first CELL (1). NONE. BAD.", -2, CELL, CELL, HOUR,
+                new Number("n (1 .. 20; both ends, too)", 1, 20, 5),
+                new Number("THIEF: how many steps (0), the first CELL (1).", 0, 1, 1)),
+        new Row("wedding", "WEDDING. BAD: alike, too: -100.", -100, OWNER, OTHER, HOUR),
+        new Row("spite", "SPITE, as bits. BAD: alike, too.", -2, OWNER, OTHER, HOUR, new Number("p (0 .. 99)", 0, 99, 10)),
+        new Row("reading", "A READING: how many there are. BAD;", -2, CELL, HOUR,
+                new Number("a CELL was LIGHT by v (0 .. 23) in an HOUR", 0, 23, 5)),
+        new Row("burn", "(1; bits; NONE). BAD: -10.", -10,
+                new Number("how many sets (0), CANDLES in all of them (1; bits; NONE).", 0, 1, 1)),
+        new Row("measure", "MEASURE. NONE. BAD.", -2, HOUR),
+        new Row("draught", "DRAUGHT is THE FRACTION: 1. BAD.", -2, CELL, HOUR,
+                new Number("LIGHT by n (0 .. 23) or more in an HOUR", 0, 23, 5),
                 new Number("blown out by c of 10 (0 .. 10)", 0, 10, 5)),
-        new Row("nights", -2, OWNER, new Number("a SEED (0 .. 999999)", 0, 999999, 77),
+        new Row("nights", "NIGHTS. BAD.", -2, OWNER, new Number("a SEED (0 .. 999999)", 0, 999999, 77),
                 new Number("n (0 .. 30), w (0 .. 100)", 0, 30, 3), new Number("n (0 .. 30), w (0 .. 100)", 0, 100, 50)),
-        new Row("part", -2, new Number("THE FRACTION: above (0), below (1). BAD.", 0, 1, 1)),
-        new Row("image", -2, new Number("An IMAGE is kept: 1. BAD.", 0, 1, 1)),
-        new Row("from", -2, new Number("It goes on from an IMAGE: 1. BAD;", 0, 1, 1)),
-        new Row("status", -1, new Number("STATUS: BAD (0), NO (1), FULL (2). -1: another what (counts as BAD).", 0, 2, 1)),
-        new Row("count", -2, new Number("5 that may be undone, 6 bytes of THE TEXT. BAD.", 0, 6, 2)),
+        new Row("part", "THE FRACTION: above (0), below (1). BAD.", -2, new Number("THE FRACTION: above (0), below (1).", 0, 1, 1)),
+        new Row("image", "An IMAGE is kept: 1. BAD.", -2, new Number("IMAGES 0, 1 keep", 0, 1, 1)),
+        new Row("from", "It goes on from an IMAGE: 1. BAD;", -2, new Number("IMAGES 0, 1 keep", 0, 1, 1)),
+        new Row("status", "-1: another what (counts as BAD).", -1, new Number("STATUS: BAD (0), NO (1), FULL (2).", 0, 2, 1)),
+        new Row("count", "6 bytes of THE TEXT. BAD.", -2, new Number("How many: 0 CANDLES, 1 FOG, 2 CANDLES LIT (bits), "
+                + "3 WANTED, 4 READINGS, 5 that may be undone, 6 bytes of THE TEXT.", 0, 6, 2)),
     };
 
     private static final String[] STATES = {"new", "one candle", "some of all", "full"};
@@ -186,15 +195,39 @@ public final class BoundsTests {
     }
 
     private static void allBeyond() {
-        Check.says("Refused, changing nothing but STATUS, the first of: BAD -2 a number is not as told");
         for (Row row : ROWS) {
+            Check.says(row.promise());
             for (int off : new int[] {WORST, row.bad() == -10 ? -2 : MOST}) {
                 int[] a = row.ordinary();
-                java.util.Arrays.fill(a, off);
+                Arrays.fill(a, off);
                 isRefused("full", row.bad(), 0, row.call(), a);
                 isRefused("new", row.bad(), 0, row.call(), a);
             }
         }
+    }
+
+    private static void theFirstReason() {
+        Check.says("the first of: BAD -2 a number is not as told; NO -3 as told; FULL -4");
+        isRefused("one candle", -2, 0, "light", 1, 1);
+        isRefused("one candle", -2, 0, "light", 0, 2);
+        isRefused("one candle", -3, 1, "light", 0, 1);
+        isRefused("one candle", -2, 0, "from", 2);
+        isRefused("one candle", -3, 1, "from", 1);
+        isRefused("full", -2, 0, "candle", 6, 0, 1, 0, 0);
+        isRefused("full", -4, 2, "candle", 5, 0, 1, 0, 0);
+        isRefused("full", -2, 0, "type", 128);
+        isRefused("full", -4, 2, "type", 127);
+        isRefused("full", -2, 0, "want", 64);
+        isRefused("full", -4, 2, "want", 63);
+        isRefused("full", -2, 0, "reading", 63, 11, 24);
+        isRefused("full", -4, 2, "reading", 63, 11, 23);
+        Check.says("(where others are told they count as these)");
+        isRefused("full", -10, 0, "cell", 64, 0, 0);
+        isRefused("full", -10, 0, "acres", 0, 0, -2);
+        isRefused("full", -10, 0, "hedges", 0, -2);
+        isRefused("full", -10, 0, "burn", 2);
+        isRefused("full", -100, 0, "wedding", 0, 0, 0);
+        isRefused("full", -1, 0, "status", 3);
     }
 
     private static void withinTheBounds() {
@@ -327,6 +360,7 @@ public final class BoundsTests {
     public static void main(String[] args) {
         beyondTheBounds();
         allBeyond();
+        theFirstReason();
         withinTheBounds();
         noSuchCandle();
         alikeOwners();

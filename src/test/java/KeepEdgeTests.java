@@ -165,6 +165,18 @@ public final class KeepEdgeTests {
         }
         Check.due(x, -3, "undo");
         Check.refused(x, 0, 2, 0);
+        // of ten, two are forgotten: they were lit by 127 and 126 ahead of them
+        for (int k = 0; k < 7; k++) {
+            Check.due(x, 1, "light", k, 0);
+        }
+        for (int k = 4; k < 7; k++) {
+            Check.due(x, 1, "light", k, 1);
+        }
+        for (int bits : new int[] {48, 16, 0, 64, 96, 112, 120, 124}) {
+            Check.due(x, bits, "undo");
+        }
+        Check.due(x, -3, "undo");
+        Check.due(x, 124, "count", 2);
     }
 
     /** All that is not a cell of a candle, or whether it is lit, stays; what was undone does not come again. */
@@ -241,7 +253,63 @@ public final class KeepEdgeTests {
         Check.due(x, 1, "from", 1);
         Check.due(x, digest, "digest");
         Check.refused(x, 0, 1, 2);
+        imagesOfFull();
         whatImagesKeepUndone();
+    }
+
+    /** Two full ones with nothing alike: what comes after an image is kept writes over nothing of it. */
+    private static void imagesOfFull() {
+        CandleLand x = new CandleLand();
+        for (int i = 0; i < 2; i++) {
+            Check.due(x, 7 * i, "valley", 9 - i);
+            for (int k = 0; k < 7; k++) {
+                x.candle((k + i) % 6, 7 * k + i, 20 - k - i, (k + i) % 4, 12 - k - i);
+            }
+            for (int k = 0; k < 6; k++) {
+                x.want(60 - 10 * k - i);
+                x.reading(9 * k + 1 + i, 2 * k + i, 3 * k + i);
+            }
+            for (int k = 0; k < 4; k++) {
+                x.light(k + 3 * i, 0);
+                x.move(k + 3 * i, 50 + k + 5 * i);
+            }
+            x.image(i);
+        }
+        for (int i = 0; i < 2; i++) {
+            Check.due(x, 1, "from", i);
+            Check.due(x, fullDigest(i, 8, 4), "digest");
+            for (int k = 3; k >= 0; k--) {
+                Check.due(x, fullLit(i, k + 1), "undo");
+                Check.due(x, fullLit(i, k), "undo");
+                Check.due(x, fullDigest(i, 2 * k, k), "digest");
+            }
+            Check.due(x, -3, "undo");
+        }
+    }
+
+    private static int fullLit(int i, int changed) {
+        return 127 & ~(((1 << changed) - 1) << 3 * i);
+    }
+
+    /** The digest of the i-th full one, when so many of its candles are changed. */
+    private static long fullDigest(int i, int undos, int changed) {
+        long h = Check.mixed(7, 9 - i, fullLit(i, changed), 6, 6, undos, 0);
+        for (int k = 0; k < 7; k++) {
+            boolean moved = k >= 3 * i && k < 3 * i + changed;
+            int cell = moved ? 50 + k - 3 * i + 5 * i : 7 * k + i;
+            for (int v : new int[] {(k + i) % 6, cell, 20 - k - i, (k + i) % 4, 12 - k - i}) {
+                h = 31 * h + v;
+            }
+        }
+        for (int k = 0; k < 6; k++) {
+            h = 31 * h + 60 - 10 * k - i;
+        }
+        for (int k = 0; k < 6; k++) {
+            for (int v : new int[] {9 * k + 1 + i, 2 * k + i, 3 * k + i}) {
+                h = 31 * h + v;
+            }
+        }
+        return 31 * (31 * h) + 1;
     }
 
     private static void whatImagesKeepUndone() {

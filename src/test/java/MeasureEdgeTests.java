@@ -1,4 +1,7 @@
 import java.math.BigInteger;
+import java.util.ArrayList;
+import java.util.Arrays;
+import java.util.List;
 
 /** The edges of what was measured: readings, sets that fit, where to measure, draughts, nights, THE FRACTION. */
 public final class MeasureEdgeTests {
@@ -157,6 +160,80 @@ public final class MeasureEdgeTests {
         x.burnt();
         x.reading(0, 0, 0);
         Check.due(x, 63, "measure", 0);
+        x = with(new int[] {1, 63, 20, 0, 12}, new int[] {1, 63, 20, 0, 12});
+        Check.due(x, 0, "measure", 0);
+        x = with(new int[] {1, 0, 20, 0, 12}, new int[] {0, 63, 20, 0, 12});
+        for (int round = 0; round < 3; round++) {
+            Check.due(x, 0, "measure", 0);
+        }
+        // all seven burnt: 128 sets are alike wherever one measures
+        x = new CandleLand();
+        for (int k = 0; k < 7; k++) {
+            x.candle(0, 9 * k, 20, 0, 11);
+        }
+        Check.due(x, 0, "measure", 11);
+    }
+
+    /** All 128 sets, or those that fit, by the words alone: each set is lit, and each cell looked at. */
+    private static void measureOfSeven() {
+        Check.says("the CELL by which the most of these sets by which it is alike LIGHT are fewest");
+        int[][] candles = {{0, 3, 7, 0, 12}, {1, 60, 9, 1, 12}, {2, 33, 4, 2, 3}, {3, 24, 6, 3, 2}, {4, 14, 15, 0, 9},
+            {5, 7, 20, 1, 0}, {0, 45, 11, 2, 5}};
+        int[][][] readings = {{}, {{30, 0, 6}}, {{45, 0, 11}, {3, 1, 7}}, {{63, 11, 1}, {60, 0, 12}, {24, 2, 6}}};
+        int[] hours = {0, 2, 3, 6, 11};
+        for (int[][] read : readings) {
+            int[][][] light = lights(candles, read, hours);
+            CandleLand x = with(candles);
+            for (int[] r : read) {
+                Calls.answer(x, "reading", r);
+            }
+            Check.due(x, light.length, "burn", 0);
+            for (int h = 0; h < hours.length; h++) {
+                Check.due(x, bestCell(light, h), "measure", hours[h]);
+            }
+        }
+    }
+
+    /** Of each set that fits, by each of these hours: how light the cells are. */
+    private static int[][][] lights(int[][] candles, int[][] readings, int[] hours) {
+        List<int[][]> fitting = new ArrayList<>();
+        for (int set = 0; set < 1 << candles.length; set++) {
+            CandleLand x = with(candles);
+            for (int k = 0; k < candles.length; k++) {
+                if ((set >> k & 1) == 0) {
+                    Check.due(x, 1, "light", k, 0);
+                }
+            }
+            boolean fits = true;
+            for (int[] r : readings) {
+                fits = fits && Calls.answer(x, "cell", r[0], r[1], 0) == r[2];
+            }
+            int[][] light = new int[hours.length][64];
+            for (int i = 0; i < 64 * hours.length; i++) {
+                light[i / 64][i % 64] = (int) Calls.answer(x, "cell", i % 64, hours[i / 64], 0);
+            }
+            if (fits) {
+                fitting.add(light);
+            }
+        }
+        return fitting.toArray(new int[0][][]);
+    }
+
+    private static int bestCell(int[][][] light, int hour) {
+        int best = -1;
+        int fewest = Integer.MAX_VALUE;
+        for (int c = 0; c < 64; c++) {
+            int[] alike = new int[24];
+            for (int[][] set : light) {
+                alike[set[hour][c]]++;
+            }
+            int most = Arrays.stream(alike).max().getAsInt();
+            if (light.length > 0 && most < fewest) {
+                fewest = most;
+                best = c;
+            }
+        }
+        return best;
     }
 
     private static void draught() {
@@ -257,6 +334,7 @@ public final class MeasureEdgeTests {
             Check.due(x, 15, "count", 2);
             Check.refused(x, 0, 0, 0);
         }
+        eachCandleInOrder();
         Check.says("X by 65536 (cut), by 100 left over, less than w: it is LIT (else out)");
         CandleLand x = with(new int[] {0, 0, 1, 0, 1});
         // X is 12345 by SEED 0: 0 by 65536; 1103527590 by SEED 1: 16838 by 65536, 38 left over
@@ -267,6 +345,23 @@ public final class MeasureEdgeTests {
         x.light(0, 0);
         Check.due(x, 30, "nights", 0, 1, 30, 100);
         Check.due(x, 0, "count", 2);
+    }
+
+    /** X goes on over candles that are out, burnt, or another's, and from night to night. */
+    private static void eachCandleInOrder() {
+        Check.says("X is SEED at first; in each NIGHT, for each CANDLE in order, X becomes X times 1103515245 and 12345, "
+                + "by 2147483648 what is left over");
+        CandleLand x = with(new int[] {0, 0, 1, 1, 0}, new int[] {0, 20, 1, 2, 12}, new int[] {0, 40, 1, 0, 12});
+        x.light(1, 0);
+        x.light(2, 0);
+        for (int seed : new int[] {0, 7, 999999}) {
+            for (int n = 0; n <= 30; n += 5) {
+                Check.due(x, 0, "nights", 1, seed, n, 100);
+                Check.due(x, litNights(3, 1, seed, n, 30), "nights", 2, seed, n, 30);
+                Check.due(x, litNights(3, 2, seed, n, 30), "nights", 0, seed, n, 30);
+            }
+        }
+        Check.due(x, 1, "count", 2);
     }
 
     private static void acresOfNights() {
@@ -300,6 +395,7 @@ public final class MeasureEdgeTests {
         setsThatFit();
         lightThatIsAsRead();
         measure();
+        measureOfSeven();
         draught();
         fraction();
         nights();

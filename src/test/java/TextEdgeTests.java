@@ -48,6 +48,7 @@ public final class TextEdgeTests {
         }
         Check.refused(x, 0, 0, 2);
         Check.says("`int clear()`: THE TEXT is empty: how many it had.");
+        Check.due(x, -10, "read");
         Check.due(x, 150, "clear");
         Check.due(x, 0, "count", 6);
         Check.due(x, 0, "clear");
@@ -79,6 +80,47 @@ public final class TextEdgeTests {
         Check.due(x, 150, "clear");
         Check.text(x, "valley 1;");
         Check.due(x, 1, "read");
+        fault(" ".repeat(142) + "valley 1|");
+        fault(" ".repeat(144) + "valley|");
+        fault("|" + "z".repeat(150));
+        read(" ".repeat(141) + "valley 9;", 1);
+    }
+
+    /** What was there ahead of it is not read on behind a shorter text. */
+    private static void textThatWasCleared() {
+        Check.says("`int clear()`: THE TEXT is empty: how many it had.");
+        CandleLand x = new CandleLand();
+        Check.text(x, "valley 12;out");
+        Check.due(x, -17, "read");
+        Check.text(x, "valle");
+        Check.due(x, -10, "read");
+        Check.text(x, "valley 1");
+        Check.due(x, -18, "read");
+        Check.text(x, "valley 2;");
+        Check.due(x, 1, "read");
+        Check.due(x, 9, "clear");
+        Check.due(x, -10, "read");
+        Check.due(x, 2, "count", 1);
+    }
+
+    /** A valley is read anew each time, whatever was read ahead of it, well or not. */
+    private static void readAgain() {
+        Check.says("`int read()`: THE VALLEY is read: how many ITEMS. -10 less the FAULT: all stays.");
+        CandleLand x = new CandleLand();
+        Check.text(x, "valley 2;candle 2 3 4 1 5;candle 0 9 8 3 7;out 0;");
+        for (int i = 0; i < 3; i++) {
+            Check.due(x, 4, "read");
+            Check.due(x, Check.mixed(2, 2, 2, 0, 0, 0, 49, 2, 3, 4, 1, 5, 0, 9, 8, 3, 7, 0, 1), "digest");
+        }
+        Check.due(x, 50, "type", '!');
+        for (int i = 0; i < 3; i++) {
+            Check.due(x, -59, "read");
+            Check.due(x, 2, "count", 0);
+        }
+        Check.text(x, "valley 3;candle 1 1 1 1 1;");
+        Check.due(x, 2, "read");
+        Check.due(x, Check.mixed(1, 3, 1, 0, 0, 0, 26, 1, 1, 1, 1, 1, 0, 1), "digest");
+        Check.refused(x, 0, 0, 0);
     }
 
     private static void bytes() {
@@ -112,6 +154,12 @@ public final class TextEdgeTests {
     }
 
     private static void tokens() {
+        Check.says("TOKENS: words of letters a .. z");
+        fault("|avalley 1;");
+        fault("|valleyz 1;");
+        fault("valley 1;|z");
+        fault("valley|_1;");
+        fault("valley|A 1;");
         Check.says("figures (1 or 2 are one number)");
         read("valley 0;", 1);
         read("valley 00;", 1);
@@ -175,6 +223,7 @@ public final class TextEdgeTests {
         fault("|galley 1;");
         fault("|vallex 1;");
         fault("|" + "valley".repeat(20));
+        fault("valley 1|z;");
         fault("valley 1;|c");
         fault("valley 1;|candl 0 0 1 0 0;");
         fault("valley 1;|candles 0 0 1 0 0;");
@@ -230,6 +279,7 @@ public final class TextEdgeTests {
             fault("valley 1;candle 0 0 1 0 |" + other);
             fault("valley 1;" + CANDLE + "out |" + other);
         }
+        Check.says("of ITEMS, each ended by ; :");
         for (String other : new String[] {"0", "valley", "candle", "out", "x"}) {
             fault("valley 1 |" + other);
             fault("valley 1;candle 0 0 1 0 0 |" + other);
@@ -312,6 +362,8 @@ public final class TextEdgeTests {
     public static void main(String[] args) {
         length();
         textThatIsFull();
+        textThatWasCleared();
+        readAgain();
         bytes();
         tokens();
         numbersAsTold();
