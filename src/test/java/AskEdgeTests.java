@@ -67,6 +67,63 @@ public final class AskEdgeTests {
         Check.due(x, 0, "hedges", 1, -1);
         Check.due(x, 1, "acres", 1, 1, -1);
         Check.refused(x, 0, 0, 0);
+        hedgesInFog();
+        cellByCell();
+    }
+
+    /** Acres and hedges are those cells of which cell says so, in their order. */
+    private static void cellByCell() {
+        Check.says("ACRES: CELLS of an OWNER.");
+        for (int hour : new int[] {0, 2, 5, 11}) {
+            int[] seen = new int[5];
+            int[][] due = new int[5][64];
+            CandleLand x = ofAllKinds();
+            for (int c = 0; c < 64; c++) {
+                boolean hedge = Calls.answer(x, "cell", c, hour, 2) == 1;
+                int who = hedge ? 4 : (int) Calls.answer(x, "cell", c, hour, 1);
+                if (who >= 0) {
+                    due[who][seen[who]] = c;
+                    seen[who]++;
+                }
+            }
+            x = ofAllKinds();
+            for (int i = 0; i < seen[4]; i++) {
+                Check.due(x, due[4][i], "hedges", hour, i);
+            }
+            Check.due(x, seen[4], "hedges", hour, -1);
+            Check.due(x, -5, "hedges", hour, seen[4]);
+            for (int o = 0; o < 4; o++) {
+                Check.due(x, seen[o], "acres", o, hour, -1);
+                Check.due(x, -5, "acres", o, hour, seen[o]);
+                for (int i = 0; i < seen[o]; i++) {
+                    Check.due(x, due[o][i], "acres", o, hour, i);
+                }
+            }
+        }
+    }
+
+    private static CandleLand ofAllKinds() {
+        return with(new int[] {0, 9, 8, 0, 6}, new int[] {1, 14, 5, 1, 10}, new int[] {2, 49, 6, 2, 3},
+                new int[] {3, 54, 7, 3, 2}, new int[] {4, 27, 13, 0, 8}, new int[] {5, 63, 12, 1, 0},
+                new int[] {0, 36, 7, 2, 12});
+    }
+
+    private static void hedgesInFog() {
+        Check.says("ACRES of an OWNER, HEDGES in an HOUR: how many; the i-th CELL.");
+        CandleLand x = with(new int[] {0, 0, 3, 0, 12}, new int[] {0, 2, 3, 1, 12});
+        Check.due(x, 2, "hedges", 0, -1);
+        Check.due(x, 1, "hedges", 0, 0);
+        Check.due(x, 9, "hedges", 0, 1);
+        Check.due(x, 3, "acres", 0, 0, -1);
+        x.fog(1);
+        Check.due(x, 1, "hedges", 0, -1);
+        Check.due(x, 1, "hedges", 0, 0);
+        Check.due(x, 2, "acres", 0, 0, -1);
+        x.fog(2);
+        Check.due(x, 0, "hedges", 0, -1);
+        Check.due(x, 1, "acres", 0, 0, -1);
+        x.fog(3);
+        Check.due(x, 0, "acres", 0, 0, -1);
     }
 
     private static void dark() {
@@ -173,7 +230,7 @@ public final class AskEdgeTests {
     }
 
     private static void tallow() {
-        Check.says("TALLOW LEAST: those by whose TALLOW told, together, it is least");
+        Check.says("TALLOW LEAST: those by whose TALLOW told, together, it is least; of like ones the least bits: how much; none.");
         CandleLand x = new CandleLand();
         Check.due(x, 0, "tallow", 0, 1);
         x.want(0);
@@ -231,10 +288,38 @@ public final class AskEdgeTests {
         Check.due(x, 0, "put", 0, 0);
         Check.due(x, 63, "of", 0, 1);
         Check.refused(x, 0, 0, 0);
+        putAmongOthers();
+    }
+
+    /** The others shine as they do in that hour and fog; the candle itself may have been anywhere. */
+    private static void putAmongOthers() {
+        Check.says("PUT a CANDLE: the CELL (0 .. 63) where it brings its OWNER most ACRES in an HOUR");
+        for (int owner = 0; owner < 2; owner++) {
+            CandleLand x = with(new int[] {0, 63, 1, 0, 12}, new int[] {0, 0, 1, owner, 1});
+            Check.due(x, 1, "put", 0, 0);
+            Check.due(x, 0, "put", 0, 1);
+            x.light(1, 0);
+            Check.due(x, 0, "put", 0, 0);
+        }
+        CandleLand x = with(new int[] {0, 63, 2, 0, 12}, new int[] {0, 0, 2, 1, 12});
+        Check.due(x, 10, "put", 0, 0);
+        x.fog(1);
+        Check.due(x, 1, "put", 0, 0);
+        x.fog(2);
+        Check.due(x, 0, "put", 0, 0);
+        // six hold the first cells: beside them one more is most
+        x = with(new int[] {0, 0, 1, 0, 12}, new int[] {0, 1, 1, 0, 12}, new int[] {0, 2, 1, 1, 12},
+                new int[] {0, 3, 1, 1, 12}, new int[] {0, 4, 1, 2, 12}, new int[] {0, 5, 1, 3, 12},
+                new int[] {0, 40, 1, 3, 12});
+        Check.due(x, 6, "put", 6, 0);
+        Check.due(x, 5, "put", 5, 0);
+        Check.due(x, 0, "put", 0, 0);
+        Check.due(x, 2, "put", 2, 0);
     }
 
     private static void thief() {
-        Check.says("by steps to a CELL beside (one column or one row)");
+        Check.says("THIEF from a CELL to one in an HOUR: by steps to a CELL beside (one column or one row), through CELLS less LIGHT "
+                + "than n (1 .. 20; both ends, too): the fewest steps");
         CandleLand x = new CandleLand();
         Check.due(x, 14, "thief", 0, 63, 0, 1, 0);
         Check.due(x, 8, "thief", 7, 8, 0, 1, 0);
@@ -243,7 +328,8 @@ public final class AskEdgeTests {
         Check.due(x, 7, "thief", 0, 56, 0, 1, 0);
         Check.due(x, 2, "thief", 0, 9, 0, 1, 0);
         Check.due(x, 8, "thief", 55, 56, 0, 1, 0);
-        Check.says("of like short ways the least");
+        Check.says("the first CELL behind the one he starts from (of like short ways the least; where he starts, if he is there); "
+                + "none.");
         Check.due(x, 1, "thief", 0, 63, 0, 1, 1);
         Check.due(x, 6, "thief", 7, 56, 0, 1, 1);
         Check.due(x, 48, "thief", 56, 7, 0, 1, 1);
@@ -311,10 +397,43 @@ public final class AskEdgeTests {
         Check.due(x, 16, "thief", 57, 6, 0, 1, 0);
         Check.due(x, 56, "thief", 57, 6, 0, 1, 1);
         Check.due(x, 12, "thief", 6, 57, 0, 2, 0);
+        windingWay();
+    }
+
+    /**
+     * As short as a way from 8 to 28 (the 2) may be, X being light:
+     * <pre>
+     * . . . X . . . .
+     * 8 X . . . X . .
+     * X X X X X X X .
+     * . X . . 2 X . .
+     * . . . X X . . .
+     * . . X X X . . .
+     * . X . X . . . .
+     * . . . . . . . .
+     * </pre>
+     */
+    private static void windingWay() {
+        CandleLand x = with(new int[] {0, 3, 1, 0, 12}, new int[] {0, 21, 2, 1, 12}, new int[] {0, 19, 1, 2, 12},
+                new int[] {0, 17, 2, 3, 12}, new int[] {0, 36, 1, 0, 12}, new int[] {0, 43, 2, 1, 12},
+                new int[] {0, 49, 1, 2, 12});
+        int[] way = {8, 0, 1, 2, 10, 11, 12, 4, 5, 6, 14, 15, 23, 31, 39, 47, 55, 63, 62, 61, 60, 59, 58, 57, 56, 48,
+            40, 41, 33, 34, 26, 27, 28};
+        for (int i = 0; i < way.length; i++) {
+            Check.due(x, way.length - 1 - i, "thief", way[i], 28, 0, 1, 0);
+            Check.due(x, i, "thief", way[i], 8, 0, 1, 0);
+        }
+        Check.due(x, 0, "thief", 8, 28, 0, 1, 1);
+        Check.due(x, 27, "thief", 28, 8, 0, 1, 1);
+        Check.due(x, 23, "thief", 15, 28, 0, 1, 1);
+        Check.due(x, 32, "thief", 40, 28, 0, 1, 1);
+        Check.due(x, 33, "thief", 41, 28, 0, 1, 1);
+        Check.due(x, 6, "thief", 8, 28, 0, 3, 0);
     }
 
     private static void wedding() {
-        Check.says("how many ACRES both would have, were both one, more than they have apart");
+        Check.says("WEDDING of two unlike OWNERS in an HOUR: how many ACRES both would have, were both one, more than they have "
+                + "apart.");
         CandleLand x = new CandleLand();
         for (int a = 0; a < 4; a++) {
             for (int b = 0; b < 4; b++) {
@@ -344,15 +463,30 @@ public final class AskEdgeTests {
         Check.due(x, 0, "wedding", 0, 2, 0);
         Check.due(x, 1, "wedding", 1, 2, 1);
         Check.due(x, 1, "wedding", 2, 1, 1);
+        // the seventh is in the hedge
+        for (int o = 1; o < 4; o++) {
+            x = new CandleLand();
+            for (int k = 0; k < 6; k++) {
+                x.candle(0, 8 * k, 1, 0, 12);
+            }
+            x.candle(0, 0, 1, o, 12);
+            Check.due(x, 1, "wedding", 0, o, 0);
+            Check.due(x, 1, "wedding", o, 0, 11);
+            Check.due(x, 0, "wedding", 0, o % 3 + 1, 0);
+        }
     }
 
     private static void spite() {
-        Check.says("less p times how many of the own CANDLES are LIT, by 10 (cut)");
+        Check.says("each gets ACRES, less p times how many of the own CANDLES are LIT, by 10 (cut)");
         CandleLand x = new CandleLand();
         Check.due(x, 15, "spite", 0, 1, 0, 0);
         Check.due(x, 15, "spite", 2, 3, 11, 99);
         x.candle(0, 0, 1, 2, 12);
         Check.due(x, 10, "spite", 2, 3, 0, 0);
+        x.fog(1);
+        Check.due(x, 15, "spite", 2, 3, 0, 0);
+        Check.due(x, 5, "spite", 2, 3, 0, 10);
+        x.fog(0);
         Check.due(x, 10, "spite", 2, 3, 0, 9);
         Check.due(x, 15, "spite", 2, 3, 0, 10);
         Check.due(x, 15, "spite", 2, 3, 0, 19);
@@ -372,7 +506,8 @@ public final class AskEdgeTests {
         Check.due(x, 2, "count", 2);
         Check.refused(x, 0, 0, 0);
         sevenOfOne();
-        Check.says("each has all CANDLES LIT or all out (others as they are)");
+        Check.says("SPITE: two unlike OWNERS a, b in an HOUR, p (0 .. 99): each has all CANDLES LIT or all out (others as they "
+                + "are)");
         x = with(new int[] {0, 0, 1, 0, 12}, new int[] {0, 63, 1, 0, 12}, new int[] {0, 0, 1, 1, 12},
                 new int[] {0, 63, 1, 2, 12});
         // lit, both of a's are hedged by others; the other's out, one is a's alone

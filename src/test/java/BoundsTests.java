@@ -80,66 +80,6 @@ public final class BoundsTests {
                 + "3 WANTED, 4 READINGS, 5 that may be undone, 6 bytes of THE TEXT.", 0, 6, 2)),
     };
 
-    private static final String[] STATES = {"new", "one candle", "some of all", "full"};
-    private static final String LONG_TEXT = "valley 4;candle 5 63 20 3 12;candle 1 2 3 1 4;out 1;";
-
-    private static CandleLand made(String state) {
-        CandleLand x = new CandleLand();
-        switch (state) {
-            case "new": break;
-            case "one candle": x.candle(2, 20, 9, 1, 9); break;
-            case "some of all": fillSome(x); break;
-            default: fillAll(x); break;
-        }
-        return x;
-    }
-
-    private static void fillSome(CandleLand x) {
-        x.fog(2);
-        for (int k = 0; k < 3; k++) {
-            x.candle(k, 9 * k + 8, 12 + k, k, 8);
-        }
-        x.want(5);
-        x.reading(6, 1, 0);
-        x.image(0);
-        x.light(1, 0);
-        x.image(1);
-        x.move(2, 44);
-        x.draught(44, 0, 1, 3);
-        for (int i = 0; i < LONG_TEXT.length(); i++) {
-            x.type(LONG_TEXT.charAt(i));
-        }
-    }
-
-    private static void fillAll(CandleLand x) {
-        x.candle(1, 5, 6, 2, 7);
-        x.move(0, 9);
-        x.light(0, 0);
-        x.image(0);
-        x.valley(3);
-        for (int k = 0; k < 7; k++) {
-            x.candle(k % 6, 9 * k, 20 - k, k % 4, 12 - k);
-        }
-        for (int i = 0; i < 6; i++) {
-            x.want(10 + i);
-            x.reading(20 + i, i, 3 + i);
-        }
-        x.move(2, 33);
-        x.image(1);
-        x.light(1, 0);
-        x.move(0, 1);
-        x.move(3, 40);
-        x.light(4, 0);
-        x.move(5, 2);
-        x.light(4, 1);
-        x.light(6, 0);
-        x.move(6, 7);
-        x.draught(0, 0, 1, 5);
-        for (int i = 0; i < 150; i++) {
-            x.type(i < LONG_TEXT.length() ? LONG_TEXT.charAt(i) : ' ');
-        }
-    }
-
     private static List<Integer> offs(int least, int most) {
         long[] tries = {least - 1L, most + 1L, WORST, MOST, least + 32L, least + 64L, least + 128L, least + 256L,
             least + 65536L, least - 32L, least - 64L, least - 256L, least - 65536L, -least - 1L, -most - 1L};
@@ -154,8 +94,8 @@ public final class BoundsTests {
 
     /** The call is refused so, counts in this one STATUS (0 BAD, 1 NO, 2 FULL), and changes nothing else. */
     private static void isRefused(String state, long answer, int reason, String call, int... a) {
-        CandleLand x = made(state);
-        CandleLand twin = made(state);
+        CandleLand x = Lands.made(state);
+        CandleLand twin = Lands.made(state);
         Check.due(x, answer, call, a);
         for (int what = 0; what < 3; what++) {
             Check.due(x, twin.status(what) + (what == reason ? 1 : 0), "status", what);
@@ -166,8 +106,8 @@ public final class BoundsTests {
     }
 
     private static void changesNothing(String state, String call, int... a) {
-        CandleLand x = made(state);
-        CandleLand twin = made(state);
+        CandleLand x = Lands.made(state);
+        CandleLand twin = Lands.made(state);
         Calls.answer(x, call, a);
         for (int what = 0; what < 3; what++) {
             Check.due(x, twin.status(what), "status", what);
@@ -182,8 +122,8 @@ public final class BoundsTests {
         for (Row row : ROWS) {
             for (int i = 0; i < row.numbers().length; i++) {
                 Check.says(row.numbers()[i].told());
-                for (String state : STATES) {
-                    int most = row.numbers()[i].most(made(state));
+                for (String state : Lands.STATES) {
+                    int most = row.numbers()[i].most(Lands.made(state));
                     for (int off : offs(row.numbers()[i].least(), most)) {
                         int[] a = row.ordinary();
                         a[i] = off;
@@ -207,7 +147,7 @@ public final class BoundsTests {
     }
 
     private static void theFirstReason() {
-        Check.says("the first of: BAD -2 a number is not as told; NO -3 as told; FULL -4");
+        Check.says("Refused, changing nothing but STATUS, the first of: BAD -2 a number is not as told; NO -3 as told; FULL -4");
         isRefused("one candle", -2, 0, "light", 1, 1);
         isRefused("one candle", -2, 0, "light", 0, 2);
         isRefused("one candle", -3, 1, "light", 0, 1);
@@ -235,14 +175,14 @@ public final class BoundsTests {
             for (int i = 0; i < row.numbers().length; i++) {
                 Number number = row.numbers()[i];
                 Check.says(number.told());
-                for (int edge : new int[] {number.least(), number.most(made("some of all"))}) {
-                    CandleLand x = made("some of all");
+                for (int edge : new int[] {number.least(), number.most(Lands.made("some of all"))}) {
+                    CandleLand x = Lands.made("some of all");
                     int[] a = row.ordinary();
                     a[i] = edge;
                     if (Calls.answer(x, row.call(), a) == row.bad() && row.bad() != -1) {
                         Check.fail(row.call() + " is refused with " + edge);
                     }
-                    Check.due(x, 0, "status", 0);
+                    Check.due(x, Lands.made("some of all").status(0), "status", 0);
                 }
             }
         }
@@ -285,7 +225,7 @@ public final class BoundsTests {
     private static void refusedAsNo() {
         Check.says("BAD; NO: it is so.");
         for (int k = 0; k < 7; k++) {
-            isRefused("full", -3, 1, "light", k, made("full").of(k, 5));
+            isRefused("full", -3, 1, "light", k, Lands.made("full").of(k, 5));
         }
         isRefused("one candle", -3, 1, "light", 0, 1);
         Check.says("UNDO: CANDLES that are LIT then (bits). NO: none may be.");
@@ -321,10 +261,12 @@ public final class BoundsTests {
             if (asking.contains(row.call())) {
                 for (int i = 0; i < row.numbers().length; i++) {
                     int[] a = row.ordinary();
-                    a[i] = row.numbers()[i].least();
-                    changesNothing("full", row.call(), a);
-                    a[i] = row.numbers()[i].most(made("full"));
-                    changesNothing("full", row.call(), a);
+                    for (String state : new String[] {"some of all", "full"}) {
+                        a[i] = row.numbers()[i].least();
+                        changesNothing(state, row.call(), a);
+                        a[i] = row.numbers()[i].most(Lands.made(state));
+                        changesNothing(state, row.call(), a);
+                    }
                 }
             }
         }
@@ -334,25 +276,25 @@ public final class BoundsTests {
     /** What is answered where there is nothing is no refusal. */
     private static void answersThatAreNoRefusals() {
         Check.says("-5: not so many.");
-        Check.due(made("new"), -5, "acres", 0, 0, 0);
+        Check.due(Lands.made("new"), -5, "acres", 0, 0, 0);
         changesNothing("new", "acres", 0, 0, 0);
         changesNothing("full", "acres", 0, 0, MOST);
-        Check.due(made("full"), -5, "hedges", 0, MOST);
+        Check.due(Lands.made("full"), -5, "hedges", 0, MOST);
         changesNothing("full", "hedges", 0, MOST);
         Check.says("LIGHTING, as bits. NONE. BAD.");
-        Check.due(made("full"), -1, "lighting", 11, 20);
+        Check.due(Lands.made("full"), -1, "lighting", 11, 20);
         changesNothing("full", "lighting", 11, 20);
         Check.says("TALLOW LEAST. NONE. BAD.");
-        Check.due(made("full"), -1, "tallow", 11, 20);
+        Check.due(Lands.made("full"), -1, "tallow", 11, 20);
         changesNothing("full", "tallow", 11, 20);
         Check.says("BURN: how many sets (0), CANDLES in all of them (1; bits; NONE).");
-        Check.due(made("full"), -1, "burn", 1);
+        Check.due(Lands.made("full"), -1, "burn", 1);
         changesNothing("full", "burn", 1);
         Check.says("MEASURE. NONE. BAD.");
-        Check.due(made("full"), -1, "measure", 0);
+        Check.due(Lands.made("full"), -1, "measure", 0);
         changesNothing("full", "measure", 0);
         Check.says("-10 less the FAULT: all stays.");
-        Check.due(made("new"), -10, "read");
+        Check.due(Lands.made("new"), -10, "read");
         changesNothing("new", "read");
         changesNothing("one candle", "read");
     }

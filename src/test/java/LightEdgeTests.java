@@ -44,7 +44,8 @@ public final class LightEdgeTests {
     }
 
     private static void candlesAsTheyCome() {
-        Check.says("CANDLES 0 .. 6, as they come");
+        Check.says("CANDLES 0 .. 6, as they come: a KIND, a CELL, HEIGHT (1 .. 20), an OWNER (0 .. 3), TALLOW (0 .. 12); "
+                + "each LIT at first.");
         CandleLand x = new CandleLand();
         Check.due(x, 0, "count", 0);
         for (int k = 0; k < 7; k++) {
@@ -124,6 +125,9 @@ public final class LightEdgeTests {
             for (int i = 0; i < tallows.length; i++) {
                 Check.due(with(kind, 0, 1, tallows[i]), hours[kind][i], "of", 0, 6);
             }
+            Check.says("KINDS, each under the one told, say how strong its LIGHT is as FAR as d, for how many HOURS it burns");
+            Check.due(with(kind, 0, 1, 12), hours[kind][tallows.length - 1], "of", 0, 6);
+            Check.due(with(kind, 63, HIGHEST, 12), hours[kind][tallows.length - 1], "of", 0, 6);
             Check.says("and burns (h is less than its HOURS); else 0.");
             for (int i = 0; i < tallows.length; i++) {
                 CandleLand x = with(kind, 0, HIGHEST, tallows[i]);
@@ -133,6 +137,28 @@ public final class LightEdgeTests {
                     if (dark != (h >= hours[kind][i])) {
                         Check.fail("kind " + kind + ", tallow " + tallows[i] + ", hour " + h);
                     }
+                }
+            }
+        }
+    }
+
+    /** What a candle is told by, and its hours, are alike lit or out, in any fog, wherever it is. */
+    private static void whatIsOfACandle() {
+        Check.says("Of a CANDLE: KIND (0), CELL (1), HEIGHT (2), OWNER (3), TALLOW (4), whether LIT (5; 1, 0), "
+                + "for how many HOURS it burns (6).");
+        int[] hours = {11, 5, 11, 22, 7, 12};
+        for (int kind = 0; kind < 6; kind++) {
+            for (int out = 0; out < 2; out++) {
+                CandleLand x = new CandleLand();
+                x.candle(kind, 40, 7, 3, 11);
+                x.fog(9);
+                x.move(0, 41 + kind);
+                if (out == 1) {
+                    x.light(0, 0);
+                }
+                int[] told = {kind, 41 + kind, 7, 3, 11, 1 - out, hours[kind]};
+                for (int what = 0; what < 7; what++) {
+                    Check.due(x, told[what], "of", 0, what);
                 }
             }
         }
@@ -173,7 +199,8 @@ public final class LightEdgeTests {
     }
 
     private static void litOrOut() {
-        Check.says("if it is LIT, and burns (h is less than its HOURS); else 0.");
+        Check.says("LIGHT of a CANDLE in a CELL, in HOUR h: that, less FOG, 0 at least, if it is LIT, and burns (h is less than "
+                + "its HOURS); else 0.");
         CandleLand x = with(0, 27, 6, 3);
         Check.due(x, 6, "shines", 0, 27, 2);
         Check.due(x, 0, "shines", 0, 27, 3);
@@ -282,6 +309,7 @@ public final class LightEdgeTests {
         kindsByHeight();
         farthestCorner();
         kindsByTallow();
+        whatIsOfACandle();
         fog();
         litOrOut();
         strongest();

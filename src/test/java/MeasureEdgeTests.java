@@ -263,7 +263,7 @@ public final class MeasureEdgeTests {
         Check.due(x, 1, "draught", 0, 0, 0, 3);
         Check.fraction(x, 1, 1);
         Check.due(x, 0, "count", 2);
-        Check.says("each CANDLE LIT is blown out by c of 10 (0 .. 10), apart");
+        Check.says("DRAUGHT: each CANDLE LIT is blown out by c of 10 (0 .. 10), apart");
         long[][] due = {{1, 1}, {9999999, 10000000}, {78124, 78125}, {9997813, 10000000}, {77997, 78125}, {127, 128},
             {75938, 78125}, {9176457, 10000000}, {61741, 78125}, {5217031, 10000000}, {0, 1}};
         x = new CandleLand();

@@ -167,7 +167,7 @@ public final class TextEdgeTests {
         Check.due(read("valley 9;", 1), 9, "count", 1);
         CandleLand x = read("valley 01;candle 05 63 20 03 12;candle 5 3 01 3 2;", 3);
         Check.due(x, Check.mixed(2, 1, 3, 0, 0, 0, 50, 5, 63, 20, 3, 12, 5, 3, 1, 3, 2, 0, 1), "digest");
-        Check.says("blanks (32) between");
+        Check.says("TOKENS: words of letters a .. z, figures (1 or 2 are one number), ; ; blanks (32) between.");
         read("valley 1;", 1);
         read("   valley    1   ;   ", 1);
         read(" valley 1 ; candle  0  0  1  0  0 ; out  0 ; ", 3);
