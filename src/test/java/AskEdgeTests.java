@@ -371,6 +371,14 @@ public final class AskEdgeTests {
         Check.due(x, 13, "thief", 1, 63, 0, 20, 0);
         Check.due(x, -1, "thief", 1, 63, 0, 19, 0);
         Check.due(x, 12, "thief", 9, 63, 0, 19, 0);
+        for (int n = 1; n <= 20; n++) {
+            // light by 20, 13 and 6
+            Check.due(x, -1, "thief", 0, 0, 0, n, 0);
+            Check.due(x, n > 13 ? 0 : -1, "thief", 7, 7, 0, n, 0);
+            Check.due(x, n > 6 ? 63 : -1, "thief", 63, 63, 0, n, 1);
+            Check.due(x, n > 13 ? 7 : -1, "thief", 7, 63, 0, n, 0);
+            Check.due(x, n > 13 ? 7 : -1, "thief", 63, 7, 0, n, 0);
+        }
         x.fog(1);
         Check.due(x, 14, "thief", 0, 63, 0, 20, 0);
         Check.says("THIEF: how many steps (0), the first CELL (1). NONE. BAD.");

@@ -253,8 +253,47 @@ public final class KeepEdgeTests {
         Check.due(x, 1, "from", 1);
         Check.due(x, digest, "digest");
         Check.refused(x, 0, 1, 2);
+        imagesOfUnlike();
         imagesOfFull();
         whatImagesKeepUndone();
+    }
+
+    /** No two of the counts are alike, in neither image. */
+    private static void imagesOfUnlike() {
+        CandleLand x = with(3);
+        for (int i = 0; i < 6; i++) {
+            x.reading(10 + i, i, 2 * i);
+        }
+        for (int i = 0; i < 4; i++) {
+            x.want(30 + i);
+            x.move(2, 40 + i);
+        }
+        x.move(1, 50);
+        x.fog(1);
+        long first = Check.mixed(3, 1, 7, 4, 6, 5, 0, 0, 0, 20, 0, 12, 1, 50, 19, 1, 11, 2, 43, 18, 2, 10, 30, 31, 32, 33,
+                10, 0, 0, 11, 1, 2, 12, 2, 4, 13, 3, 6, 14, 4, 8, 15, 5, 10, 0, 1);
+        Check.due(x, first, "digest");
+        Check.due(x, 1, "image", 0);
+        Check.due(x, 6, "burnt");
+        x.want(60);
+        x.reading(61, 7, 9);
+        x.light(0, 0);
+        x.fog(8);
+        long second = Check.mixed(3, 8, 6, 5, 1, 6, 0, 0, 0, 20, 0, 12, 1, 50, 19, 1, 11, 2, 43, 18, 2, 10, 30, 31, 32, 33,
+                60, 61, 7, 9, 0, 1);
+        Check.due(x, second, "digest");
+        Check.due(x, 1, "image", 1);
+        Check.due(x, 3, "valley", 2);
+        for (int round = 0; round < 2; round++) {
+            Check.due(x, 1, "from", 0);
+            Check.due(x, first, "digest");
+            Check.due(x, 1, "from", 1);
+            Check.due(x, second, "digest");
+        }
+        Check.due(x, 7, "undo");
+        Check.due(x, 5, "forget");
+        Check.due(x, 1, "from", 1);
+        Check.due(x, second, "digest");
     }
 
     /** Two full ones with nothing alike: what comes after an image is kept writes over nothing of it. */
